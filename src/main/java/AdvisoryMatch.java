@@ -633,7 +633,8 @@ public final class AdvisoryMatch {
     private static final class Planner {
         // One more package that changes outweighs every sum of places moved.
         private static final int CHANGE_COST = MOST_PACKS * MOST_VERSIONS;
-        private static final int NOT_FOUND = Integer.MAX_VALUE;
+        // Above the cost of every plan.
+        private static final int NOT_FOUND = CHANGE_COST * (MOST_PACKS + 1);
 
         private final Packs packs;
         private final Needs needs;
@@ -728,7 +729,8 @@ public final class AdvisoryMatch {
         }
 
         private boolean isClearPlace(int pack, int place) {
-            return isBelow(place, MOST_VERSIONS) && clearPlaces[pack * MOST_VERSIONS + place];
+            return isBelow(pack, MOST_PACKS) && isBelow(place, MOST_VERSIONS)
+                    && clearPlaces[pack * MOST_VERSIONS + place];
         }
 
         private static int costOf(int now, int place) {

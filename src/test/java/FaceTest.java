@@ -85,6 +85,8 @@ public final class FaceTest {
                     Modifier.isPrivate(kind) && Modifier.isStatic(kind));
             for (Method method : inside.getDeclaredMethods()) {
                 check.yes(method + " with at most seven parameters", method.getParameterCount() <= 7);
+                check.yes(method + " with a name that isn't the face's", METHODS.stream()
+                        .noneMatch(m -> m.contains(" " + method.getName() + "(")));
             }
             for (Field field : inside.getDeclaredFields()) {
                 check.yes(field + " final if static", !Modifier.isStatic(field.getModifiers())
