@@ -1,13 +1,8 @@
 /** Counts the answers that are not due, prints them, and ends the program by them. */
 final class Check {
-    private final String suite;
     private String about = "";
     private int right;
     private int wrong;
-
-    Check(String suite) {
-        this.suite = suite;
-    }
 
     void about(String text) {
         about = text;
@@ -30,7 +25,7 @@ final class Check {
         same(what, 0, got ? 1 : 0);
     }
 
-    void end() {
+    void end(String suite) {
         System.out.println(suite + ": " + right + " right, " + wrong + " wrong");
         if (wrong != 0 || right == 0) {
             System.exit(1);

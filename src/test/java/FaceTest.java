@@ -21,7 +21,7 @@ public final class FaceTest {
     private static final List<String> BARRED = List.of(
             "\\bthrow\\b", "\\btry\\b", "\\bcatch\\b", "\\bsynchronized\\b", "\\bassert\\b", "->",
             "::", "\\bpackage \\w", "Exact\\b", "\\bfloat\\b", "\\bdouble\\b", "\\bObject\\b");
-    private static final Check check = new Check("FaceTest");
+    private static final Check check = new Check();
 
     public static void main(String[] args) throws Exception {
         check.about("the face");
@@ -37,7 +37,7 @@ public final class FaceTest {
         nested(face);
         check.about("the language");
         source();
-        check.end();
+        check.end("FaceTest");
     }
 
     private static String textOf(Method method) {

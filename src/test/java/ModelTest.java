@@ -9,7 +9,7 @@ public final class ModelTest {
         -1, -2, 0, 5, 6, 12, 16, 1000000, 1000001, Integer.MIN_VALUE, Integer.MAX_VALUE
     };
 
-    private final Check check = new Check("ModelTest");
+    private final Check check = new Check();
     private final int[] plans = new int[8];
     private Random random;
     private AdvisoryMatch x;
@@ -25,7 +25,7 @@ public final class ModelTest {
             test.onePlanRun(run);
         }
         test.dueVariety();
-        test.check.end();
+        test.check.end("ModelTest");
     }
 
     /** Runs that never find a plan, or never one that moves much, would tell too little. */

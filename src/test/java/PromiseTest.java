@@ -2,12 +2,7 @@ import java.math.BigDecimal;
 import java.math.RoundingMode;
 
 /** Each promise of the document: ordinary inputs, the edges that it names, and wrong inputs. */
-public final class PromiseTest {
-    private static final int NONE = AdvisoryMatch.NONE;
-    private static final int MIN = Integer.MIN_VALUE;
-    private static final int MAX = Integer.MAX_VALUE;
-    private static final Check check = new Check("PromiseTest");
-
+public final class PromiseTest extends Scene {
     public static void main(String[] args) {
         newObject();
         pack();
@@ -37,45 +32,7 @@ public final class PromiseTest {
         planOrder();
         planned();
         update();
-        check.end();
-    }
-
-    /** An object with packages that have the versions 10, 20, .. each; none is installed. */
-    private static AdvisoryMatch withPacks(int packs, int versions) {
-        AdvisoryMatch x = new AdvisoryMatch();
-        for (int p = 0; p < packs; p++) {
-            x.pack(p == 0);
-            for (int v = 1; v <= versions; v++) {
-                x.version(p, 10 * v);
-            }
-        }
-        return x;
-    }
-
-    private static void installAll(AdvisoryMatch x, int... places) {
-        for (int p = 0; p < places.length; p++) {
-            check.yes("install(" + p + ", " + places[p] + ")", x.install(p, places[p]));
-        }
-    }
-
-    private static void dueHit(AdvisoryMatch x, int i, int... parts) {
-        for (int what = 0; what < parts.length; what++) {
-            check.same("hit(" + i + ", " + what + ")", parts[what], x.hit(i, what));
-        }
-    }
-
-    private static void duePlan(AdvisoryMatch x, int changed, int... places) {
-        check.same("plan()", changed, x.plan());
-        for (int p = 0; p < places.length; p++) {
-            check.same("planned(" + p + ")", places[p], x.planned(p));
-        }
-    }
-
-    /** A new advisory of a package with one span. */
-    private static int advisoryOn(AdvisoryMatch x, int pack, int from, int to) {
-        int number = x.advisory(pack);
-        check.yes("span(" + number + ", " + from + ", " + to + ")", x.span(number, from, to));
-        return number;
+        check.end("PromiseTest");
     }
 
     private static void newObject() {
@@ -283,13 +240,6 @@ public final class PromiseTest {
         dueHitPlaces(z, true, true);
     }
 
-    private static void dueHitPlaces(AdvisoryMatch x, boolean... struck) {
-        for (int place = 0; place < struck.length; place++) {
-            x.install(0, place);
-            check.same("hits() at place " + place, struck[place] ? 1 : 0, x.hits());
-        }
-    }
-
     private static void severity() {
         check.about("promise 9");
         AdvisoryMatch x = withPacks(1, 1);
@@ -367,12 +317,6 @@ public final class PromiseTest {
         check.same("same(0, 1)", 0, x.same(0, 1));
         check.same("same(1, 4)", 0, x.same(1, 4));
         dueGroups(x, 0, 0, 0, 3, 0, 0, 0, 0);
-    }
-
-    private static void dueGroups(AdvisoryMatch x, int... groups) {
-        for (int a = 0; a < groups.length; a++) {
-            check.same("group(" + a + ")", groups[a], x.group(a));
-        }
     }
 
     private static void group() {
@@ -475,13 +419,6 @@ public final class PromiseTest {
         dueExcepted(x, 0, 0);
         check.yes("except(0, 0, 4)", x.except(0, 0, 4));
         dueExcepted(x, 1, 0);
-    }
-
-    private static void dueExcepted(AdvisoryMatch x, int... excepted) {
-        check.same("hits()", excepted.length, x.hits());
-        for (int i = 0; i < excepted.length; i++) {
-            check.same("hit(" + i + ", 5)", excepted[i], x.hit(i, 5));
-        }
     }
 
     private static void exceptionsOfJoinedGroups() {
@@ -692,13 +629,6 @@ public final class PromiseTest {
         dueFar(x, 0, 1, 1, 0, NONE);
     }
 
-    private static void dueFar(AdvisoryMatch x, int... far) {
-        check.same("hits()", far.length, x.hits());
-        for (int i = 0; i < far.length; i++) {
-            check.same("hit(" + i + ", 3)", far[i], x.hit(i, 3));
-        }
-    }
-
     private static void reached() {
         check.about("promise 17, reached");
         AdvisoryMatch x = withPacks(4, 2);
@@ -723,13 +653,6 @@ public final class PromiseTest {
         dueReached(x, 1, 1, 0, 1);
         x.install(0, NONE);
         dueReached(x, 0, 0, 0);
-    }
-
-    private static void dueReached(AdvisoryMatch x, int... reached) {
-        check.same("hits()", reached.length, x.hits());
-        for (int i = 0; i < reached.length; i++) {
-            check.same("hit(" + i + ", 4)", reached[i], x.hit(i, 4));
-        }
     }
 
     private static void broken() {
