@@ -483,6 +483,9 @@ public final class TermsBoundaryTest extends Scene {
         dueFar(x, 0, 1, 2, 1);
         x.need(3, 0, 2, 0, 100);
         dueFar(x, 0, 1, 2, 1);
+        // Fewer by one alone is fewer.
+        x.need(0, 0, 2, 0, 100);
+        dueFar(x, 0, 1, 1, 1);
     }
 
     private static void reachedByCalledAlone() {
