@@ -104,5 +104,37 @@ public final class FaceTest {
         check.yes("no import but Arrays",
                 code.replace("import java.util.Arrays;", "").indexOf("import") < 0);
         check.yes("characters 0 to 127 alone", text.chars().allMatch(c -> c < 128));
+        madeWithTheObject(code);
+        shortMethods(code);
+    }
+
+    /** All arrays and objects are made by fields and by the constructor of the face. */
+    private static void madeWithTheObject(String code) {
+        int start = code.indexOf("public AdvisoryMatch() {");
+        int end = code.indexOf("}", start);
+        String rest = code.substring(0, start) + code.substring(end);
+        for (String line : rest.split("\n")) {
+            check.yes("made with the object:" + line,
+                    !line.matches(".*\\bnew\\b.*|.*\\.clone\\(.*|.*copyOf.*")
+                    || line.matches("        private final \\S+ \\w+ = new .*"));
+        }
+    }
+
+    /** The lines from one that opens a method to the one that closes it at the same depth. */
+    private static void shortMethods(String code) {
+        String[] lines = code.split("\n");
+        int found = 0;
+        for (int first = 0; first < lines.length; first++) {
+            if (lines[first].matches("( {4}| {8})(?!if |for )\\w[^=]*\\) \\{")) {
+                String close = lines[first].replaceAll("\\S.*", "") + "}";
+                int last = first;
+                while (last < lines.length && !lines[last].equals(close)) {
+                    last++;
+                }
+                check.yes("at most sixty lines:" + lines[first], last - first < 60);
+                found++;
+            }
+        }
+        check.yes("methods are found", found > 60);
     }
 }
